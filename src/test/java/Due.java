@@ -1,0 +1,49 @@
+/** What the tests share: answers looked at, and lands told in one go. */
+final class Due {
+    private static int asked, wrong;
+
+    private Due() {
+    }
+
+    static void is(String call, long got, long want) {
+        asked++;
+        if (got != want) {
+            wrong++;
+            System.out.println(call + " answered " + got + ", due is " + want);
+        }
+    }
+
+    static void holds(String what, boolean so) {
+        is(what, so ? 1 : 0, 1);
+    }
+
+    /** Feeds a text, and makes it a land: what land() answers. */
+    static int land(TwoOnOneBack x, String text) {
+        for (int k = 0; k < text.length(); k++) {
+            x.feed(text.charAt(k));
+        }
+        return x.land();
+    }
+
+    /** A new object whose land is a text. */
+    static TwoOnOneBack on(String text) {
+        TwoOnOneBack x = new TwoOnOneBack();
+        is("land of " + text, land(x, text), 0);
+        return x;
+    }
+
+    static long bits(int... cells) {
+        long bits = 0;
+        for (int cell : cells) {
+            bits |= 1L << cell;
+        }
+        return bits;
+    }
+
+    static void end(String name) {
+        System.out.println(name + ": " + asked + " answers, " + wrong + " wrong");
+        if (wrong != 0 || asked == 0) {
+            System.exit(1);
+        }
+    }
+}

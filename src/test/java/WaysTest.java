@@ -1,0 +1,201 @@
+/** Promises 11 to 16: soonest, begin, reached, never, meet, home. */
+public final class WaysTest {
+    private static final String CORRIDOR = "wall r>0";
+
+    public static void main(String[] args) {
+        soonest();
+        limits();
+        begin();
+        reached();
+        never();
+        meet();
+        home();
+        asking();
+        Due.end("WaysTest");
+    }
+
+    private static TwoOnOneBack in(String land, int kind, int v, int cell, int way, int beat) {
+        TwoOnOneBack x = Due.on(land);
+        x.walker(kind, v, cell, way);
+        x.put(0, cell, way, beat);
+        return x;
+    }
+
+    // in the corridor a WALKER FACING 1 can but go ON by 1, and back: one CELL further in three beats
+    private static void soonest() {
+        TwoOnOneBack x = in(CORRIDOR, 0, 0, 0, 1, 0);
+        int[] beats = {0, 1, 2, 5, 8, 11};
+        for (int cell = 0; cell < 6; cell++) {
+            Due.is("soonest to " + cell, x.soonest(0, cell, 0), beats[cell]);
+            Due.is("first step to " + cell, x.soonest(0, cell, 1), cell == 0 ? -5 : 1);
+        }
+        Due.is("soonest to a wall", x.soonest(0, 6, 0), -5);
+        Due.is("first step to a wall", x.soonest(0, 6, 1), -5);
+        x.put(0, 0, 1, 2);
+        Due.is("it stands first", x.soonest(0, 1, 0), 2);
+        Due.is("first step", x.soonest(0, 1, 1), 5);
+        x.put(0, 3, 1, 2);
+        Due.is("back", x.soonest(0, 2, 0), 1);
+        Due.is("first step back", x.soonest(0, 2, 1), 4);
+        x = in("on 2", 0, 0, 14, 1, 0);
+        Due.is("behind it", x.soonest(0, 13, 0), 5);
+        Due.is("the least first step", x.soonest(0, 13, 1), 0);
+        Due.is("beside it", x.soonest(0, 21, 0), 2);
+        Due.is("by 1 ahead of by 2", x.soonest(0, 21, 1), 1);
+        x.put(0, 14, 3, 0);
+        Due.is("by 2 ahead of by 3", x.soonest(0, 19, 1), 2);
+        Due.is("soonest(1, 0, 0)", x.soonest(1, 0, 0), -1);
+        Due.is("soonest(-1, 0, 0)", x.soonest(-1, 0, 0), -1);
+        Due.is("soonest(0, 36, 0)", x.soonest(0, 36, 0), -1);
+        Due.is("soonest(0, -1, 0)", x.soonest(0, -1, 0), -1);
+        Due.is("soonest(0, 0, 2)", x.soonest(0, 0, 2), -1);
+        Due.is("soonest(0, 0, -1)", x.soonest(0, 0, -1), -1);
+    }
+
+    // a ring of 20 CELLS at the edge, on 2, back 1: a LAME one with v 1 turns a corner in every other beat only
+    private static void limits() {
+        String ring = "wall r>0&r<5&c>0&c<5;back 1";
+        TwoOnOneBack x = in(ring, 0, 0, 0, 1, 0);
+        PlainModel y = new PlainModel();
+        for (int k = 0; k < ring.length(); k++) {
+            y.feed(ring.charAt(k));
+        }
+        y.land();
+        y.walker(0, 0, 0, 1);
+        for (int cell = 0; cell < 36; cell++) {
+            Due.is("in the ring to " + cell, x.soonest(0, cell, 0), y.soonest(0, cell, 0));
+        }
+        String snake = "wall r=1&c<5|r=3&c>0;on 3;back 2";
+        x = in(snake, 1, 0, 0, 1, 0);
+        Due.is("a snake of 20 cells: the 16th", x.soonest(0, 29, 0) > 60 ? 1 : 0, 0);
+        Due.is("a corridor to its end: 4 on, 3 back", in(CORRIDOR + ";on 4;back 3", 0, 0, 0, 1, 0).soonest(0, 5, 0), 11);
+    }
+
+    private static void begin() {
+        TwoOnOneBack x = in(CORRIDOR, 0, 0, 0, 1, 2);
+        Due.is("of several the least", x.begin(0, 1, 0), 0);
+        Due.is("beats", x.begin(0, 1, 1), 1);
+        Due.is("to the end", x.begin(0, 5, 0), 0);
+        Due.is("to the end, beats", x.begin(0, 5, 1), 11);
+        Due.is("to its own", x.begin(0, 0, 0), 0);
+        Due.is("to its own, beats", x.begin(0, 0, 1), 0);
+        Due.is("by none", x.begin(0, 9, 0), -5);
+        Due.is("by none, beats", x.begin(0, 9, 1), -5);
+        x = in(CORRIDOR, 0, 0, 3, 1, 0);
+        Due.is("with the back beat", x.begin(0, 2, 0), 2);
+        Due.is("with the back beat, beats", x.begin(0, 2, 1), 1);
+        Due.is("its beat is as it was", x.of(0, 4), 0);
+        x = in("on 4;back 4;wall r>0", 0, 0, 3, 1, 0);
+        Due.is("the first of four back beats", x.begin(0, 2, 0), 4);
+        Due.is("two cells back", x.begin(0, 1, 0), 4);
+        Due.is("two cells back, beats", x.begin(0, 1, 1), 2);
+        Due.is("begin(1, 0, 0)", x.begin(1, 0, 0), -1);
+        Due.is("begin(0, 36, 0)", x.begin(0, 36, 0), -1);
+        Due.is("begin(0, -1, 0)", x.begin(0, -1, 0), -1);
+        Due.is("begin(0, 0, 2)", x.begin(0, 0, 2), -1);
+        Due.is("begin(0, 0, -1)", x.begin(0, 0, -1), -1);
+    }
+
+    private static void reached() {
+        TwoOnOneBack x = in(CORRIDOR, 0, 0, 0, 1, 0);
+        long[] want = {1, 3, 7, 7, 7, 15, 15, 15, 31, 31, 31, 63};
+        for (int n = 0; n < want.length; n++) {
+            Due.is("reached within " + n, x.reached(0, n), want[n]);
+        }
+        Due.is("reached within 60", x.reached(0, 60), 63);
+        Due.is("reached within 61", x.reached(0, 61), Long.MIN_VALUE);
+        Due.is("reached within -1", x.reached(0, -1), Long.MIN_VALUE);
+        Due.is("reached by none", x.reached(1, 0), Long.MIN_VALUE);
+        x = in("on 2", 0, 0, 14, 1, 0);
+        Due.is("open ground, 1", x.reached(0, 1), Due.bits(14, 8, 15, 20));
+        x.put(0, 14, 1, 2);
+        Due.is("open ground, back", x.reached(0, 1), Due.bits(14, 13));
+        Due.land(x, "wall i=14");
+        Due.is("its own, a wall", x.reached(0, 0), Due.bits(14));
+    }
+
+    private static void never() {
+        TwoOnOneBack x = in(CORRIDOR, 0, 0, 3, 1, 0);
+        Due.is("behind it", x.never(0), Due.bits(0, 1, 2));
+        x = in("wall !i<3", 0, 0, 0, 1, 0);
+        Due.is("all reached", x.never(0), 0);
+        x = in("wall i=1|i=6", 1, 0, 0, 1, 0);
+        Due.is("shut in", x.never(0), (1L << 36) - 1 - 67);
+        Due.is("never(1)", x.never(1), Long.MIN_VALUE);
+        Due.is("never(-1)", x.never(-1), Long.MIN_VALUE);
+        // on 1, back 1: it gets no further than one CELL but by its turns, and a led one by 1 has none
+        x = in("on 1;back 1;wall r>0", 4, 1, 0, 1, 0);
+        Due.is("led not by 1", x.never(0), Due.bits(1, 2, 3, 4, 5));
+    }
+
+    private static void meet() {
+        TwoOnOneBack x = in(CORRIDOR, 0, 0, 0, 1, 0);
+        x.walker(0, 0, 5, 3);
+        Due.is("never: an odd way between", x.meet(0, 1, 0), -5);
+        Due.is("never, the cell", x.meet(0, 1, 1), -5);
+        x.put(1, 4, 3, 0);
+        Due.is("in the middle", x.meet(0, 1, 0), 2);
+        Due.is("in the middle, the cell", x.meet(0, 1, 1), 2);
+        Due.is("the other way round", x.meet(1, 0, 1), 2);
+        x.put(1, 0, 3, 1);
+        Due.is("at once", x.meet(0, 1, 0), 0);
+        Due.is("at once, the cell", x.meet(0, 1, 1), 0);
+        // each at its own beat
+        x.put(0, 0, 1, 1);
+        x.put(1, 3, 1, 1);
+        Due.is("own beats, at the end where both stand", x.meet(0, 1, 0), 13);
+        Due.is("own beats, the end", x.meet(0, 1, 1), 5);
+        x.put(1, 2, 1, 2);
+        Due.is("own beats, meeting", x.meet(0, 1, 0), 1);
+        Due.is("own beats, the cell", x.meet(0, 1, 1), 1);
+        x = in("on 2", 1, 0, 7, 1, 0);
+        x.walker(1, 0, 14, 1);
+        Due.is("the least cell of two", x.meet(0, 1, 1), 8);
+        Due.is("meet(0, 2, 0)", x.meet(0, 2, 0), -1);
+        Due.is("meet(2, 0, 0)", x.meet(2, 0, 0), -1);
+        Due.is("meet(-1, 0, 0)", x.meet(-1, 0, 0), -1);
+        Due.is("meet(0, 1, 2)", x.meet(0, 1, 2), -1);
+        Due.is("meet(0, 0, 2)", x.meet(0, 0, 2), -1);
+        Due.is("meet(0, 0, 0)", x.meet(0, 0, 0), -2);
+        Due.is("meet(9, 9, 0)", x.meet(9, 9, 0), -1);
+    }
+
+    private static void home() {
+        TwoOnOneBack x = in("wall r>0;on 1;back 1", 0, 0, 0, 1, 0);
+        Due.is("on 1, back 1", x.home(0), 2);
+        x = in("wall r>0;on 2;back 2", 0, 0, 0, 1, 0);
+        Due.is("on 2, back 2", x.home(0), 4);
+        x = in(CORRIDOR, 0, 0, 4, 1, 0);
+        Due.is("it stands once", x.home(0), 3);
+        x.put(0, 5, 1, 0);
+        Due.is("never", x.home(0), -5);
+        x = in("wall !i=7", 0, 0, 7, 1, 0);
+        Due.is("standing all the round", x.home(0), 3);
+        x = in("on 2", 0, 0, 14, 1, 0);
+        Due.is("facing as it does", x.home(0), 6);
+        Due.is("home(1)", x.home(1), -1);
+        Due.is("home(-1)", x.home(-1), -1);
+    }
+
+    private static void asking() {
+        TwoOnOneBack x = in("door c=2", 6, 3, 14, 1, 5);
+        long[] before = new long[8];
+        for (int what = 0; what < 8; what++) {
+            before[what] = x.of(0, what);
+        }
+        x.walker(2, 0, 3, 1);
+        x.soonest(0, 35, 1);
+        x.begin(0, 35, 1);
+        x.reached(0, 60);
+        x.never(0);
+        x.meet(0, 1, 0);
+        x.home(0);
+        x.lot(0, 3, 6, 1);
+        x.slower(0, 3, 1, 2);
+        x.hand(0, 2);
+        x.tracks(0, 0);
+        for (int what = 0; what < 8; what++) {
+            Due.is("nothing changed", x.of(0, what), before[what]);
+        }
+    }
+}
