@@ -160,7 +160,7 @@ public final class TwoOnOneBack {
     }
 
     private int allowed(Walker one) {
-        gait.as(now.land, one);
+        gait.become(now.land, one.kind, one.v, one.beat, one.gone);
         return gait.steps(one.cell, one.facing, one.came);
     }
 
@@ -212,8 +212,7 @@ public final class TwoOnOneBack {
         int best = NO_WAY;
         int fewest = NO_WAY;
         for (int beat = 0; beat < now.land.rhythm(); beat++) {
-            crowd.alone(now.land, one);
-            crowd.gait.beat = beat;
+            crowd.alone(now.land, one, one.kind, one.v, beat);
             int beats = crowd.beatsTo(cell);
             if (beats >= 0 && (best < 0 || beats < fewest)) {
                 best = beat;
@@ -326,10 +325,7 @@ public final class TwoOnOneBack {
 
     /** Whether one who began at a BEAT might have left the TRACKS. */
     private boolean left(int kind, int v, int beat) {
-        crowd.around(now.land, now.tracks.at(0));
-        crowd.gait.kind = kind;
-        crowd.gait.v = v;
-        crowd.gait.beat = beat;
+        crowd.around(now.land, now.tracks.at(0), kind, v, beat);
         for (int n = 1; n < now.tracks.length; n++) {
             crowd.advance(ANY_STEP);
             crowd.keep(now.tracks.at(n));
@@ -360,16 +356,11 @@ public final class TwoOnOneBack {
         if (one == null || !isCell(cell) || !isKind(kind) || !isKind(other)) {
             return NO_SUCH;
         }
-        int beats = beatsAs(one, kind, cell);
-        int less = beatsAs(one, other, cell);
+        crowd.alone(now.land, one, kind, 0, one.beat);
+        int beats = crowd.beatsTo(cell);
+        crowd.alone(now.land, one, other, 0, one.beat);
+        int less = crowd.beatsTo(cell);
         return beats < 0 || less < 0 ? NO_LESS : beats - less;
-    }
-
-    private int beatsAs(Walker one, int kind, int cell) {
-        crowd.alone(now.land, one);
-        crowd.gait.kind = kind;
-        crowd.gait.v = 0;
-        return crowd.beatsTo(cell);
     }
 
     // ---- judging, the image, acts, tapes
@@ -768,17 +759,13 @@ public final class TwoOnOneBack {
         }
 
         private int number() {
-            int first = digit();
+            int first = oneIf("0123456789");
             if (first < 0) {
                 wrong = true;
                 return 0;
             }
-            int second = digit();
+            int second = oneIf("0123456789");
             return second < 0 ? first : 10 * first + second;
-        }
-
-        private int digit() {
-            return oneIf("0123456789");
         }
 
         private int oneOf(String choice) {
@@ -787,9 +774,14 @@ public final class TwoOnOneBack {
             return which;
         }
 
+        // once it is wrong nothing is taken, here or in takes: so at stays where the FAULT is
         private int oneIf(String choice) {
+            if (wrong || at < 0 || at >= length || at >= MOST_SIGNS) {
+                return -1;
+            }
             for (int k = 0; k < choice.length(); k++) {
-                if (takes(choice.charAt(k))) {
+                if (signs[at] == choice.charAt(k)) {
+                    at++;
                     return k;
                 }
             }
@@ -802,7 +794,6 @@ public final class TwoOnOneBack {
             }
         }
 
-        // once it is wrong nothing is taken: so at stays where the FAULT is
         private boolean takes(char sign) {
             if (wrong || at < 0 || at >= length || at >= MOST_SIGNS || signs[at] != sign) {
                 return false;
@@ -905,23 +896,19 @@ public final class TwoOnOneBack {
     /** How one of a KIND goes in a LAND at a BEAT: asked for whole sets of CELLS at once. */
     private static final class Gait {
         private Land land;
-        int kind, v, beat, gone;
+        private int kind, v;
+        int beat, gone;
 
         Gait(Land bare) {
             land = bare;
         }
 
-        void as(Land land, Walker one) {
+        void become(Land land, int kind, int v, int beat, int gone) {
             this.land = land;
-            kind = one.kind;
-            v = one.v;
-            beat = land.beat(one.beat);
-            gone = one.gone;
-        }
-
-        void anew(Land land) {
-            this.land = land;
-            gone = 0;
+            this.kind = kind;
+            this.v = v;
+            this.beat = land.beat(beat);
+            this.gone = gone;
         }
 
         void tick() {
@@ -945,7 +932,7 @@ public final class TwoOnOneBack {
                 return rests() ? GROUND : GROUND & ~leaves(facing, came);
             }
             if (step == BACK) {
-                return isOn() ? 0L : backs(facing, came);
+                return isOn() ? 0L : land.backward(way(BACK, facing, came));
             }
             return isOn() ? ons(step, facing) : 0L;
         }
@@ -973,17 +960,9 @@ public final class TwoOnOneBack {
 
         private long leaves(int facing, int came) {
             if (!isOn()) {
-                return backs(facing, came);
+                return land.backward(way(BACK, facing, came));
             }
-            long cells = 0L;
-            for (int way = 0; way < WAYS; way++) {
-                cells |= ons(way, facing);
-            }
-            return cells;
-        }
-
-        private long backs(int facing, int came) {
-            return land.backward(way(BACK, facing, came));
+            return ons(0, facing) | ons(1, facing) | ons(2, facing) | ons(3, facing);
         }
 
         private long ons(int way, int facing) {
@@ -997,10 +976,9 @@ public final class TwoOnOneBack {
             if (way == facing) {
                 return cells;
             }
-            return way == across(facing) ? 0L : aside(cells, facing);
-        }
-
-        private long aside(long cells, int facing) {
+            if (way == across(facing)) {
+                return 0L;
+            }
             switch (kind) {
                 case LAME: case DANCER: return (gone + v) % 2 == 0 ? cells : 0L;
                 case BLIND: return cells & ~land.onward(facing, facing);
@@ -1020,13 +998,18 @@ public final class TwoOnOneBack {
         }
 
         void alone(Land land, Walker one) {
-            gait.as(land, one);
+            alone(land, one, one.kind, one.v, one.beat);
+        }
+
+        void alone(Land land, Walker one, int kind, int v, int beat) {
+            gait.become(land, kind, v, beat, one.gone);
             Arrays.fill(here, 0L);
             join(here, one.facing, one.came, 1L << one.cell);
         }
 
-        void around(Land land, int cell) {
-            gait.anew(land);
+        /** One who faces any WAY, GONE 0, having come from its CELL. */
+        void around(Land land, int cell, int kind, int v, int beat) {
+            gait.become(land, kind, v, beat, 0);
             Arrays.fill(here, 0L);
             for (int facing = 0; facing < WAYS; facing++) {
                 join(here, facing, HERE, 1L << cell);
@@ -1116,7 +1099,7 @@ public final class TwoOnOneBack {
         }
 
         void alone(Land land, Walker one) {
-            gait.as(land, one);
+            gait.become(land, one.kind, one.v, one.beat, one.gone);
             Arrays.fill(here, 0L);
             join(here, one.cell, one.facing, one.came, 1L);
         }

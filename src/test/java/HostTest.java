@@ -252,6 +252,7 @@ public final class HostTest {
         }
         Due.is("nothing", x.tape(0, -1, -99), 1);
         Due.is("nothing there", x.item(0, 0, 0), -11);
+        Due.is("nothing to read", x.read(0, 0), NO);
         Due.is("tape 6", x.tape(6, 9, 99), -1);
         Due.is("tape -1", x.tape(-1, 0, 1), -1);
         Due.is("sort 5", x.tape(1, 5, -1), -2);

@@ -108,6 +108,10 @@ public final class LandsTest {
         fault("wall !!!!!r=1", 9);
         fault("wall ((((r=1))))", -1);
         fault("wall (((((r=1)))))", 9);
+        for (String word : new String[] {"ledge ", "door ", "stair "}) {
+            fault(word + "((((r=1))))", -1);
+            fault(word + "!!((!r=1))", word.length() + 4);
+        }
         fault("wall !(!(r=1))", -1);
         fault("wall !(!((r=1)))", 9);
         fault("wall !(!(!r=1))", 9);
@@ -177,6 +181,8 @@ public final class LandsTest {
         marks("i<3", Due.bits(0, 1, 2));
         marks("i=07", Due.bits(7));
         marks("i>99", 0);
+        marks("i=10|i=20", Due.bits(10, 20));
+        marks("i>29&i<40&c<1", Due.bits(30));
         marks("r=0&c=0|r=5&c=5", Due.bits(0, 35));
         marks("r=0&(c=0|r=5)&c<9", Due.bits(0));
         marks("!i>1", Due.bits(0, 1));

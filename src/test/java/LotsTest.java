@@ -71,6 +71,7 @@ public final class LotsTest {
         Due.is("turner 1, walker 5", x.slower(0, 13, 1, 0), -4);
         Due.is("the same", x.slower(0, 13, 2, 2), 0);
         Due.is("lame with v 0, at gone 0, may turn", x.slower(0, 8, 3, 0), 0);
+        Due.is("so as the other one, too", x.slower(0, 8, 0, 3), 0);
         // a row up comes but by a step back, and that undoes one down
         Due.is("led with v 0, not by 0", x.slower(0, 8, 4, 1), -1000);
         Due.is("its kind is as it was", x.of(0, 0), 3);

@@ -97,6 +97,16 @@ public final class RowsTest {
         Due.is("two on, one back, one on", x.tracks(0, 0), 1);
         walk(x, 14, 16);
         Due.is("a jump", x.tracks(0, 0), 0);
+        walk(x, 14, 1);
+        Due.is("a far jump", x.tracks(1, 0), 0);
+        walk(x, 1, 6);
+        Due.is("a jump past the corner", x.tracks(1, 0), 0);
+        int[] around = {8, 15, 20, 13};
+        for (int cell : around) {
+            walk(x, 14, cell);
+            Due.is("blind goes but ahead: to " + cell, x.tracks(5, 0), 3);
+            Due.is("lame goes but ahead, or back: to " + cell, x.tracks(3, 1), 7);
+        }
         walk(x, 14, 14);
         Due.is("none stands there", x.tracks(0, 0), 0);
         walk(x, 12, 12);

@@ -34,6 +34,7 @@ public final class WaysTest {
         x.put(0, 0, 1, 2);
         Due.is("it stands first", x.soonest(0, 1, 0), 2);
         Due.is("first step", x.soonest(0, 1, 1), 5);
+        Due.is("to its own, where it stands", x.soonest(0, 0, 1), -5);
         x.put(0, 3, 1, 2);
         Due.is("back", x.soonest(0, 2, 0), 1);
         Due.is("first step back", x.soonest(0, 2, 1), 4);
@@ -52,23 +53,34 @@ public final class WaysTest {
         Due.is("soonest(0, 0, -1)", x.soonest(0, 0, -1), -1);
     }
 
-    // a ring of 20 CELLS at the edge, on 2, back 1: a LAME one with v 1 turns a corner in every other beat only
+    // a snake of 20 CELLS from 0 to 29, on 1, back 4: a ROUND one gets one CELL further in five beats,
+    // so it is in the n-th behind 5 n - 4 beats; beginning with BEAT 1 it stays in its own for four beats first
     private static void limits() {
-        String ring = "wall r>0&r<5&c>0&c<5;back 1";
-        TwoOnOneBack x = in(ring, 0, 0, 0, 1, 0);
-        PlainModel y = new PlainModel();
-        for (int k = 0; k < ring.length(); k++) {
-            y.feed(ring.charAt(k));
-        }
-        y.land();
-        y.walker(0, 0, 0, 1);
-        for (int cell = 0; cell < 36; cell++) {
-            Due.is("in the ring to " + cell, x.soonest(0, cell, 0), y.soonest(0, cell, 0));
-        }
-        String snake = "wall r=1&c<5|r=3&c>0;on 3;back 2";
-        x = in(snake, 1, 0, 0, 1, 0);
-        Due.is("a snake of 20 cells: the 16th", x.soonest(0, 29, 0) > 60 ? 1 : 0, 0);
-        Due.is("a corridor to its end: 4 on, 3 back", in(CORRIDOR + ";on 4;back 3", 0, 0, 0, 1, 0).soonest(0, 5, 0), 11);
+        String snake = "wall r=1&c<5|r=3&c>0|r=5;on 1;back 4";
+        TwoOnOneBack x = in(snake, 2, 0, 0, 1, 0);
+        Due.is("the 12th", x.soonest(0, 12, 0), 56);
+        Due.is("the 13th, 61 beats", x.soonest(0, 18, 0), -5);
+        Due.is("the 13th, the first step", x.soonest(0, 18, 1), -5);
+        Due.is("the 13th and all behind it", x.never(0), Due.bits(18, 24, 25, 26, 27, 28, 29));
+        Due.is("begin to the 13th", x.begin(0, 18, 0), -5);
+        Due.is("slower to the 13th", x.slower(0, 18, 2, 1), -1000);
+        x.put(0, 0, 1, 1);
+        Due.is("the 12th, 60 beats", x.soonest(0, 12, 0), 60);
+        Due.is("the 12th, the first step", x.soonest(0, 12, 1), 4);
+        Due.is("the 12th within 60", x.reached(0, 60) >> 12 & 1, 1);
+        Due.is("the 12th within 59", x.reached(0, 59) >> 12 & 1, 0);
+        Due.is("not never", x.never(0) >> 12 & 1, 0);
+        x = in("wall r=1&c<5|r=3&c>0|r=5;on 1;back 2", 0, 0, 0, 1, 0);
+        x.walker(2, 1, 25, 2);
+        Due.is("meeting behind 40 beats", x.meet(0, 1, 0), 40);
+        Due.is("meeting in", x.meet(0, 1, 1), 1);
+        x = in(snake, 0, 0, 5, 1, 0);
+        x.walker(2, 1, 25, 2);
+        Due.is("meeting behind 41 beats", x.meet(0, 1, 0), -5);
+        x = in("wall r=1&c<5|r=3&c>0;on 1;back 4", 5, 0, 35, 1, 0);
+        Due.is("home behind 60 beats", x.home(0), 60);
+        x = in("wall r=1&c<5|r=3&c>0|r=5;on 3;back 2", 3, 0, 5, 3, 0);
+        Due.is("home behind 65 beats", x.home(0), -5);
     }
 
     private static void begin() {
@@ -108,8 +120,11 @@ public final class WaysTest {
         Due.is("reached by none", x.reached(1, 0), Long.MIN_VALUE);
         x = in("on 2", 0, 0, 14, 1, 0);
         Due.is("open ground, 1", x.reached(0, 1), Due.bits(14, 8, 15, 20));
-        x.put(0, 14, 1, 2);
-        Due.is("open ground, back", x.reached(0, 1), Due.bits(14, 13));
+        int[] behind = {20, 13, 8, 15};
+        for (int way = 0; way < 4; way++) {
+            x.put(0, 14, way, 2);
+            Due.is("open ground, back", x.reached(0, 1), Due.bits(14, behind[way]));
+        }
         Due.land(x, "wall i=14");
         Due.is("its own, a wall", x.reached(0, 0), Due.bits(14));
     }
@@ -169,6 +184,15 @@ public final class WaysTest {
         Due.is("it stands once", x.home(0), 3);
         x.put(0, 5, 1, 0);
         Due.is("never", x.home(0), -5);
+        x.put(0, 0, 1, 0);
+        Due.is("never in the corner", x.home(0), -5);
+        int[] begin = {34, 31, 1, 4};
+        String[] lane = {"c!4", "r!5", "c!1", "r!0"};
+        for (int way = 0; way < 4; way++) {
+            String land = "wall !" + lane[way].replace('!', '=') + ";on 1;back 1";
+            x = in(land, 0, 0, begin[way], way, 0);
+            Due.is("home by way " + way, x.home(0), 2);
+        }
         x = in("wall !i=7", 0, 0, 7, 1, 0);
         Due.is("standing all the round", x.home(0), 3);
         x = in("on 2", 0, 0, 14, 1, 0);
