@@ -32,6 +32,34 @@ final class Due {
         return x;
     }
 
+    /** Looks at where a text has its fault; below 0: it is a land. */
+    static void fault(String text, int place) {
+        is("fault of " + text, land(new TwoOnOneBack(), text), place < 0 ? 0 : -10 - place);
+    }
+
+    /** A new object on a land, whose only walker is put to a beat. */
+    static TwoOnOneBack in(String land, int kind, int v, int cell, int way, int beat) {
+        TwoOnOneBack x = on(land);
+        is("walker in " + land, x.walker(kind, v, cell, way), 0);
+        x.put(0, cell, way, beat);
+        return x;
+    }
+
+    /** Tells tracks anew. */
+    static void walk(TwoOnOneBack x, int... cells) {
+        x.track(-1);
+        for (int cell : cells) {
+            x.track(cell);
+        }
+    }
+
+    /** All that of() tells of a walker. */
+    static void all(String of, TwoOnOneBack x, int walker, int... want) {
+        for (int what = 0; what < 7; what++) {
+            is(of + ": " + what, x.of(walker, what), want[what]);
+        }
+    }
+
     static long bits(int... cells) {
         long bits = 0;
         for (int cell : cells) {

@@ -61,72 +61,67 @@ public final class LandsTest {
         Due.is("lands", x.count(1), 2);
     }
 
-    private static void fault(String text, int place) {
-        TwoOnOneBack x = new TwoOnOneBack();
-        Due.is("fault of " + text, Due.land(x, text), place < 0 ? 0 : -10 - place);
-    }
-
     private static void faults() {
-        fault("", 0);
-        fault("x", 0);
-        fault("O", 0);
-        fault("o", 1);
-        fault("on", 2);
-        fault("on ", 3);
-        fault("on2", 2);
-        fault("on  2", 3);
-        fault("on 2", -1);
-        fault("on 02", -1);
-        fault("on 123", 5);
-        fault("on 2 ", 4);
-        fault("on 2;", 5);
-        fault(";on 2", 0);
-        fault("on 2; back 1", 5);
-        fault("back 1;bak 2", 9);
-        fault("wall", 4);
-        fault("wall 2", 5);
-        fault("wall r", 6);
-        fault("wall r2", 6);
-        fault("wall r=", 7);
-        fault("wall r=x", 7);
-        fault("wall r==1", 7);
-        fault("wall r=123", 9);
-        fault("wall x=1", 5);
-        fault("ledge r=1|", 10);
-        fault("ledge r=1||c=1", 10);
-        fault("ledge r=1&|c=1", 10);
-        fault("door (r=1", 9);
-        fault("door (r=1))", 10);
-        fault("door r=1)", 8);
-        fault("door ()", 6);
-        fault("stair !", 7);
-        fault("stair !&", 7);
-        fault("stair r=1 ", 9);
-        fault("stairs r=1", 5);
-        fault("wall r<1;wall c>2;wall s=3;wall d<4;wall i>5", -1);
-        fault("wall !!!!r=1", -1);
-        fault("wall !!!!!r=1", 9);
-        fault("wall ((((r=1))))", -1);
-        fault("wall (((((r=1)))))", 9);
+        Due.fault("", 0);
+        Due.fault("x", 0);
+        Due.fault("O", 0);
+        Due.fault("o", 1);
+        Due.fault("on", 2);
+        Due.fault("on ", 3);
+        Due.fault("on2", 2);
+        Due.fault("on  2", 3);
+        Due.fault("on 2", -1);
+        Due.fault("on 02", -1);
+        Due.fault("on 123", 5);
+        Due.fault("on 2 ", 4);
+        Due.fault("on 2;", 5);
+        Due.fault(";on 2", 0);
+        Due.fault("on 2; back 1", 5);
+        Due.fault("back 1;bak 2", 9);
+        Due.fault("wall", 4);
+        Due.fault("wall 2", 5);
+        Due.fault("wall r", 6);
+        Due.fault("wall r2", 6);
+        Due.fault("wall r=", 7);
+        Due.fault("wall r=x", 7);
+        Due.fault("wall r==1", 7);
+        Due.fault("wall r=123", 9);
+        Due.fault("wall x=1", 5);
+        Due.fault("ledge r=1|", 10);
+        Due.fault("ledge r=1||c=1", 10);
+        Due.fault("ledge r=1&|c=1", 10);
+        Due.fault("door (r=1", 9);
+        Due.fault("door (r=1))", 10);
+        Due.fault("door r=1)", 8);
+        Due.fault("door ()", 6);
+        Due.fault("stair !", 7);
+        Due.fault("stair !&", 7);
+        Due.fault("stair r=1 ", 9);
+        Due.fault("stairs r=1", 5);
+        Due.fault("wall r<1;wall c>2;wall s=3;wall d<4;wall i>5", -1);
+        Due.fault("wall !!!!r=1", -1);
+        Due.fault("wall !!!!!r=1", 9);
+        Due.fault("wall ((((r=1))))", -1);
+        Due.fault("wall (((((r=1)))))", 9);
         for (String word : new String[] {"ledge ", "door ", "stair "}) {
-            fault(word + "((((r=1))))", -1);
-            fault(word + "!!((!r=1))", word.length() + 4);
+            Due.fault(word + "((((r=1))))", -1);
+            Due.fault(word + "!!((!r=1))", word.length() + 4);
         }
-        fault("wall !(!(r=1))", -1);
-        fault("wall !(!((r=1)))", 9);
-        fault("wall !(!(!r=1))", 9);
-        fault("wall (r=1)&(c=1)|(s=1)&(d=1)|!(i=1)&!(i=2)", -1);
+        Due.fault("wall !(!(r=1))", -1);
+        Due.fault("wall !(!((r=1)))", 9);
+        Due.fault("wall !(!(!r=1))", 9);
+        Due.fault("wall (r=1)&(c=1)|(s=1)&(d=1)|!(i=1)&!(i=2)", -1);
         String nine = "on 1;on 1;on 1;on 1;on 1;on 1;on 1;on 1;on 1";
-        fault(nine + ";on 1", -1);
-        fault(nine + ";on 1;on 1", 49);
-        fault(nine + ";on 1;", 49);
+        Due.fault(nine + ";on 1", -1);
+        Due.fault(nine + ";on 1;on 1", 49);
+        Due.fault(nine + ";on 1;", 49);
         StringBuilder all = new StringBuilder("wall r=1");
         while (all.length() < 100) {
             all.append(all.length() % 4 == 0 ? '|' : all.length() % 4 == 1 ? 'r' : all.length() % 4 == 2 ? '=' : '1');
         }
-        fault(all.toString(), -1);
-        fault(all.substring(0, 99), 99);
-        fault("wall r=11" + all.substring(8, 99), 100);
+        Due.fault(all.toString(), -1);
+        Due.fault(all.substring(0, 99), 99);
+        Due.fault("wall r=11" + all.substring(8, 99), 100);
     }
 
     private static void fullLands() {

@@ -75,41 +75,34 @@ public final class RowsTest {
         Due.is("count(3), none", x.count(3), 0);
     }
 
-    private static void walk(TwoOnOneBack x, int... cells) {
-        x.track(-1);
-        for (int cell : cells) {
-            x.track(cell);
-        }
-    }
-
     private static void tracks() {
         TwoOnOneBack x = new TwoOnOneBack();
         Due.is("without", x.tracks(0, 0), 7);
-        walk(x, 14);
+        Due.walk(x, 14);
         Due.is("one cell", x.tracks(0, 0), 7);
-        walk(x, 14, 15);
+        Due.walk(x, 14, 15);
         Due.is("one on, or back", x.tracks(0, 0), 7);
-        walk(x, 14, 15, 14);
+        Due.walk(x, 14, 15, 14);
         Due.is("there and back", x.tracks(0, 0), 6);
-        walk(x, 14, 15, 16);
+        Due.walk(x, 14, 15, 16);
         Due.is("two on", x.tracks(0, 0), 1);
-        walk(x, 14, 15, 16, 15, 9);
+        Due.walk(x, 14, 15, 16, 15, 9);
         Due.is("two on, one back, one on", x.tracks(0, 0), 1);
-        walk(x, 14, 16);
+        Due.walk(x, 14, 16);
         Due.is("a jump", x.tracks(0, 0), 0);
-        walk(x, 14, 1);
+        Due.walk(x, 14, 1);
         Due.is("a far jump", x.tracks(1, 0), 0);
-        walk(x, 1, 6);
+        Due.walk(x, 1, 6);
         Due.is("a jump past the corner", x.tracks(1, 0), 0);
         int[] around = {8, 15, 20, 13};
         for (int cell : around) {
-            walk(x, 14, cell);
+            Due.walk(x, 14, cell);
             Due.is("blind goes but ahead: to " + cell, x.tracks(5, 0), 3);
             Due.is("lame goes but ahead, or back: to " + cell, x.tracks(3, 1), 7);
         }
-        walk(x, 14, 14);
+        Due.walk(x, 14, 14);
         Due.is("none stands there", x.tracks(0, 0), 0);
-        walk(x, 12, 12);
+        Due.walk(x, 12, 12);
         Due.is("standing at the edge, in the back beat", x.tracks(0, 0), 4);
         Due.is("tracks(7, 10)", x.tracks(7, 10), -1);
         Due.is("tracks(-1, 0)", x.tracks(-1, 0), -1);
@@ -122,23 +115,23 @@ public final class RowsTest {
 
     private static void inWalls() {
         TwoOnOneBack x = Due.on("wall i=14");
-        walk(x, 14, 15);
+        Due.walk(x, 14, 15);
         Due.is("out of a wall", x.tracks(0, 0), 7);
-        walk(x, 15, 14);
+        Due.walk(x, 15, 14);
         Due.is("into a wall", x.tracks(0, 0), 0);
     }
 
     private static void kinds() {
         TwoOnOneBack x = new TwoOnOneBack();
-        walk(x, 14, 14);
+        Due.walk(x, 14, 14);
         Due.is("round, back into its own", x.tracks(2, 0), 4);
         Due.is("blind, back into its own", x.tracks(5, 0), 4);
         Due.is("dancer, gone 0", x.tracks(6, 1), 3);
         Due.is("dancer, v 0", x.tracks(6, 0), 0);
-        walk(x, 14, 15, 14, 14);
+        Due.walk(x, 14, 15, 14, 14);
         Due.is("dancer v 2, at gone 2", x.tracks(6, 2), 6);
         Due.is("dancer v 3, not at gone 2", x.tracks(6, 3), 0);
-        walk(x, 14, 15, 21);
+        Due.walk(x, 14, 15, 21);
         Due.is("walker turns", x.tracks(0, 0), 5);
         Due.is("lame v 1, turns at gone 1", x.tracks(3, 1), 5);
         Due.is("lame v 2 does not", x.tracks(3, 2), 0);
