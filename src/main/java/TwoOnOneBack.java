@@ -405,13 +405,11 @@ public final class TwoOnOneBack {
         if (one == null) {
             return 0;
         }
-        bodies.kind = one.kind;
-        bodies.v = one.v;
-        bodies.number = walker;
+        bodies.become(one.kind, one.v, walker);
         switch (act) {
-            case 0: return bodies.steps(one.kind, x);
-            case 1: return bodies.turns(one.kind, x);
-            case 2: return bodies.tells(one.kind, x);
+            case 0: return bodies.steps(x);
+            case 1: return bodies.turns(x);
+            case 2: return bodies.tells(x);
             default: return 0;
         }
     }
@@ -1145,61 +1143,82 @@ public final class TwoOnOneBack {
         }
     }
 
-    /** The BODIES of ACTS and THE TRACE; a first argument is the KIND from which on a body is looked for. */
+    /** The BODIES of ACTS and THE TRACE: steps, turns and tells run the body of one's KIND, or the next one above. */
     private static final class Bodies {
         final int[] trace = new int[MOST_TRACE];
-        int ran, kind, v, number;
+        int ran;
+        private int kind, v, number;
 
-        int steps(int from, int x) {
-            switch (from) {
-                case ROUND:
+        void become(int kind, int v, int number) {
+            this.kind = kind;
+            this.v = v;
+            this.number = number;
+        }
+
+        int steps(int x) {
+            switch (kind) {
+                case ROUND: case BLIND:
                     begins(30);
-                    return steps(WALKER, x * 3);
+                    return plainSteps(x * 3);
                 case LED:
                     begins(50);
-                    return -steps(TURNER, x);
+                    return -plainSteps(x);
                 case DANCER:
                     begins(71);
-                    return steps(LAME, x) ^ v;
-                case BLIND:
-                    return steps(ROUND, x);
+                    return plainSteps(x) ^ v;
                 default:
-                    begins(10);
-                    return x + number;
+                    return plainSteps(x);
             }
         }
 
-        int turns(int from, int x) {
-            switch (from) {
+        int turns(int x) {
+            switch (kind) {
                 case TURNER:
                     begins(20);
-                    return turns(WALKER, x) ^ 6;
+                    return plainTurns(x) ^ 6;
                 case LED:
                     begins(51);
-                    return turns(TURNER, x + 1);
+                    // TURNER's body stands here too: one call more would go nine deep
+                    begins(20);
+                    return plainTurns(x + 1) ^ 6;
                 case DANCER:
                     begins(70);
-                    int turned = turns(LAME, x);
-                    return turned + steps(LAME, 2);
+                    int turned = plainTurns(x);
+                    return turned + plainSteps(2);
                 default:
-                    begins(11);
-                    return steps(kind, x) - v;
+                    return plainTurns(x);
             }
         }
 
-        int tells(int from, int x) {
-            switch (from) {
+        int tells(int x) {
+            switch (kind) {
                 case LAME: case DANCER:
                     begins(40);
-                    int said = tells(WALKER, x);
-                    return said + turns(kind, 1);
+                    int said = plainTells(x);
+                    return said + turns(1);
                 case BLIND:
                     begins(60);
-                    return tells(ROUND, x - number);
+                    return plainTells(x - number);
                 default:
-                    begins(12);
-                    return turns(kind, x) * 2;
+                    return plainTells(x);
             }
+        }
+
+        // the bodies of KIND WALKER, which all KINDS are under
+
+        private int plainSteps(int x) {
+            begins(10);
+            return x + number;
+        }
+
+        private int plainTurns(int x) {
+            begins(11);
+            return steps(x) - v;
+        }
+
+        private int plainTells(int x) {
+            begins(12);
+            return turns(x) * 2;
         }
 
         private void begins(int body) {
